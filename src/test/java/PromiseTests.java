@@ -304,6 +304,23 @@ public final class PromiseTests {
         }
         due("120 bytes", lawOf(x, full.toString()), 1);
         due("held", x.rung(1), 3);
+        full = new StringBuilder("!0");
+        while (full.length() < 120) {
+            full.append("+0");
+        }
+        due("120 bytes, none of which goes with another", lawOf(x, full.toString()), 1);
+        due("all counts", x.rung(1), 1);
+        full.setCharAt(119, '2');
+        due("to the last byte", lawOf(x, full.toString()), 1);
+        due("all counts", x.rung(1), 3);
+        full.setCharAt(119, '(');
+        due("120 bytes that end too early", lawOf(x, full.toString()), -220);
+        full.setLength(0);
+        while (full.length() < 118) {
+            full.append("0?3;");
+        }
+        due("thirty lines", lawOf(x, full.substring(0, 119)), 1);
+        due("none counts", x.rung(1), 0);
     }
 
     private static void lawWorked() {
@@ -1214,6 +1231,32 @@ public final class PromiseTests {
         }
         due("none", x.undo(), STATE);
         due("of(0, 2)", x.of(0, 2), 5);
+        undoOfMany();
+    }
+
+    /** 20, 21 .. into AT and RESTS by turns of three: the oldest drop out, the others stay in their order. */
+    private static void undoOfMany() {
+        RungByHeart x = fresh();
+        x.farm(0, 0);
+        for (int i = 1; i <= 43; i++) {
+            if (i % 3 == 0) {
+                x.mend(0, 4, i / 3 % 10);
+            } else {
+                x.mend(0, 2, i);
+            }
+        }
+        for (int i = 43; i > 3; i--) {
+            due("undo()", x.undo(), i - 4);
+            int at = (i - 1) % 3 == 0 ? i - 2 : i - 1;
+            due("AT, behind change " + (i - 1), x.of(0, 2), at);
+            due("RESTS, behind change " + (i - 1), x.of(0, 4), (i - 1) / 3 % 10);
+        }
+        due("the first three stay", x.undo(), STATE);
+        for (int i = 4; i <= 43; i++) {
+            due("redo()", x.redo(), 43 - i);
+            due("AT, with change " + i, x.of(0, 2), i % 3 == 0 ? i - 1 : i);
+            due("RESTS, with change " + i, x.of(0, 4), i / 3 % 10);
+        }
     }
 
     private static void redo() {
