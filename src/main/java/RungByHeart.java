@@ -220,20 +220,13 @@ public final class RungByHeart {
         if (fs < 0 || !field.isFarm(farm) || !within(sign, HIGHEST_SIGN) || !within(minute, LAST)) {
             return BAD;
         }
-        ringDay(field, tower, LAST);
-        ringDay(field, second, minute);
-        for (int m = minute + 1; m <= LAST; m++) {
-            countSigns(field, second, m - 1);
-            if (m - 1 == minute) {
-                addSign(field.doing(farm, minute, second), -1);
-                addSign(sign, 1);
-            }
-            second.add(nextStroke(field, second));
-            if (second.at(m) != tower.at(m)) {
-                return m;
-            }
-        }
-        return NOT;
+        ringDay(field, tower, minute);
+        countSigns(field, tower, minute);
+        int unchanged = nextStroke(field, tower);
+        addSign(field.doing(farm, minute, tower), -1);
+        addSign(sign, 1);
+        // What farms do counts in the next minute alone: if that is rung as it was, so are all later ones.
+        return minute < LAST && nextStroke(field, tower) != unchanged ? minute + 1 : NOT;
     }
 
     public int byWhom(int minute) {
@@ -392,8 +385,7 @@ public final class RungByHeart {
         beginDeed();
         clearSigns();
         for (int f = 0; f < field.farms; f++) {
-            int told = deed.toldTo(f);
-            addSign(told < 0 ? field.doing(f, deed.tower.minute, deed.tower) : told, 1);
+            addSign(doingNow(f), 1);
         }
         int sign = nextStroke(field, deed.tower);
         deed.ringOn(sign);
@@ -405,8 +397,9 @@ public final class RungByHeart {
             return BAD;
         }
         beginDeed();
+        int would = doingNow(farm);
         deed.hearTold(farm, sign);
-        return field.doing(farm, deed.tower.minute, deed.tower);
+        return would;
     }
 
     public int day() {
@@ -750,6 +743,12 @@ public final class RungByHeart {
 
     private int rungNow() {
         return deed.tower.minute == 0 ? field.common(BEGINS) : deed.tower.at(deed.tower.minute);
+    }
+
+    // What it was told for the minute NOW goes ahead of what its KIND says.
+    private int doingNow(int farm) {
+        int told = deed.toldTo(farm);
+        return told < 0 ? field.doing(farm, deed.tower.minute, deed.tower) : told;
     }
 
     // BEGINS may still be mended until the first minute passes.

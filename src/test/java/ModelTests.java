@@ -1098,9 +1098,10 @@ public final class ModelTests {
             if (!in(farm, 0, farms.size() - 1) || !in(sign, 0, 3)) {
                 return -1;
             }
+            int told = deed.told[farm];
             deed.told[farm] = sign;
             deed.tellings++;
-            return inDeed().does(farm, deed.now());
+            return told >= 0 ? told : inDeed().does(farm, deed.now());
         }
 
         int day() {

@@ -596,6 +596,12 @@ public final class PromiseTests {
         due("no SIGN is never right", x.late(0, 6, 0), 3);
         due("the first", x.late(0, 6, 1), 1);
         due("n ends ahead of it", x.late(0, 0, 1), NOT);
+        bytes(x, 0, 1, 1);
+        due("minute 0, too", x.late(0, 3, 0), 3);
+        due("minute 0, too", x.late(0, 3, 1), 0);
+        due("minute 0 alone", x.late(0, 0, 0), 1);
+        x.row(0, 0, 0);
+        due("no bytes at all", x.late(0, 300, 0), 225);
     }
 
     private static void spare() {
@@ -702,6 +708,19 @@ public final class PromiseTests {
         lawOf(x, "b?2;a?1");
         due("0 for 1", x.changesIt(0, 10), 11);
         due("1 for 1", x.changesIt(1, 10), NOT);
+        changedLater();
+    }
+
+    /** Farm 0 is deaf; farm 1 does 0 in minutes 0 to 3, and from minute 4 on the 1 that it hears. */
+    private static void changedLater() {
+        RungByHeart x = withLaw("a>1?2;b>0&m>12?3;1");
+        x.farm(0, 1);
+        x.farm(4, 0);
+        due("two 1s", x.changesIt(1, 7), 8);
+        due("farm 1 hears none yet", x.changesIt(1, 2), NOT);
+        due("a 3 counts for nothing", x.changesIt(3, 7), NOT);
+        due("too early for the law", x.changesIt(2, 11), NOT);
+        due("just then", x.changesIt(2, 12), 13);
     }
 
     private static void byWhom() {
@@ -781,6 +800,18 @@ public final class PromiseTests {
         due("the mourner hears it", z.church(23, 3, 0), 3);
         due("farm 0 hears the first", z.church(23, 5, 1), 3);
         due("without a text", bothWithoutText(), 2);
+        due("set 1000 of four farms", setOfTheLast(0), 0);
+        due("set 1000 of four farms", setOfTheLast(1), 3);
+    }
+
+    /** Of four farms the last alone hears the other church, which rang 3 in minute 0; the others stand deaf. */
+    private static int setOfTheLast(int what) {
+        RungByHeart x = withLaw("r>2?c*3;0");
+        x.farm(0, 1);
+        x.farm(0, 1);
+        x.farm(0, 1);
+        x.farm(0, 0);
+        return x.church(83, 5, what);
     }
 
     private static int bothWithoutText() {
@@ -999,6 +1030,13 @@ public final class PromiseTests {
                 due("days", x.drawn(seed, 2013, 1), drawnDays(seed, 20, 13, rains, 1));
             }
         }
+        x.mend(0, 7, 0);
+        due("one day", x.drawn(7, 105, 0), 5);
+        x.mend(0, 1, 0);
+        x.mend(0, 0, 2);
+        due("it hears 2 minutes later: 1 0 0 1 0 0 1", x.drawn(7, 207, 0), 6);
+        due("the last is rung", x.drawn(7, 207, 1), 0);
+        due("the last is not", x.drawn(7, 208, 1), 2);
         due("n 0", x.drawn(1, 50, 0), BAD);
         due("n 21", x.drawn(1, 2101, 0), BAD);
         due("n 20", x.drawn(1, 2199, 0), BAD);
@@ -1089,11 +1127,24 @@ public final class PromiseTests {
         due("for the minute NOW alone", x.tell(0, 0), 3);
         due("the other hears minute 0", x.pass(), 1);
         due("told the sign it would do", x.tell(0, 1), 1);
-        due("told again: its own doing", x.tell(0, 2), 1);
+        due("told again: what it was told before", x.tell(0, 3), 1);
+        due("told a third time", x.tell(0, 2), 3);
+        due("what was not to be told is not kept", x.tell(0, 4), BAD);
+        due("still what it was told", x.tell(0, 2), 2);
+        due("the other by its KIND", x.tell(1, 0), 3);
+        due("the other told 0", x.tell(1, 1), 0);
         due("the latest counts", x.pass(), 3);
-        due("led(2)", x.led(2), 5);
+        due("told is over: what it hears", x.tell(0, 0), 3);
+        due("led(2)", x.led(2), 10);
         x.day();
-        x.tell(0, 0);
+        due("the new day's own doing", x.tell(0, 3), 1);
+        x.image();
+        due("told in the image", x.tell(0, 0), 3);
+        x.back();
+        due("the image keeps what was told", x.tell(0, 0), 3);
+        x.mend(0, 1, 1);
+        due("told goes ahead of its KIND", x.tell(0, 2), 0);
+        x.mend(0, 1, 0);
         due("a new day forgets it", x.day(), 0);
         due("told for naught", x.pass(), 1);
         x.day();
@@ -1238,22 +1289,22 @@ public final class PromiseTests {
     private static void undoOfMany() {
         RungByHeart x = fresh();
         x.farm(0, 0);
-        for (int i = 1; i <= 43; i++) {
+        for (int i = 1; i <= 44; i++) {
             if (i % 3 == 0) {
                 x.mend(0, 4, i / 3 % 10);
             } else {
                 x.mend(0, 2, i);
             }
         }
-        for (int i = 43; i > 3; i--) {
-            due("undo()", x.undo(), i - 4);
+        for (int i = 44; i > 4; i--) {
+            due("undo()", x.undo(), i - 5);
             int at = (i - 1) % 3 == 0 ? i - 2 : i - 1;
             due("AT, behind change " + (i - 1), x.of(0, 2), at);
             due("RESTS, behind change " + (i - 1), x.of(0, 4), (i - 1) / 3 % 10);
         }
-        due("the first three stay", x.undo(), STATE);
-        for (int i = 4; i <= 43; i++) {
-            due("redo()", x.redo(), 43 - i);
+        due("the first four stay", x.undo(), STATE);
+        for (int i = 5; i <= 44; i++) {
+            due("redo()", x.redo(), 44 - i);
             due("AT, with change " + i, x.of(0, 2), i % 3 == 0 ? i - 1 : i);
             due("RESTS, with change " + i, x.of(0, 4), i / 3 % 10);
         }
