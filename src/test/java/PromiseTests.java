@@ -311,6 +311,7 @@ public final class PromiseTests {
         due("120 bytes, none of which goes with another", lawOf(x, full.toString()), 1);
         due("all counts", x.rung(1), 1);
         full.setCharAt(119, '2');
+        x = fresh();
         due("to the last byte", lawOf(x, full.toString()), 1);
         due("all counts", x.rung(1), 3);
         full.setCharAt(119, '(');
